@@ -153,6 +153,8 @@ final class LanguageTest {
     }
 
     private static void pathsAreApart() {
+        dueInts("ADD AMB FAIL NUM:1 NUM:2", 1, 3);
+        dueInts("ADD NUM:1 MUL NUM:2 AMB REQ NUM:0 NUM:4 NUM:5", 1, 11);
         dueInts("LET:0 NUM:0 SEQ AMB SET:0 NUM:5 NUM:1 VAR:0", 0, 5, 0);
         dueInts("LET:0 NUM:0 SEQ AMB SEQ SET:0 NUM:5 FAIL NUM:1 VAR:0", 1, 0);
         dueInts("LET:0 NUM:0 SEQ SET:0 ADD VAR:0 NUM:1 SEQ AMB NUM:1 NUM:2 VAR:0", 0, 1, 1);

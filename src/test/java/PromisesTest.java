@@ -311,6 +311,17 @@ final class PromisesTest {
         Checks.due(what + ", tokenCount", x.tokenCount(), 10);
     }
 
+    private static void dueWholeSearch(String what, AmbEvaluator x) {
+        Checks.due(what, x.next(), AmbEvaluator.SOLUTION);
+        Checks.dueCounts(what, x, AmbEvaluator.READY, 1, 1);
+        Checks.dueLast(what, x, AmbEvaluator.KIND_CLOSURE, 3, "10", 1);
+        Checks.due(what, x.next(), AmbEvaluator.SOLUTION);
+        Checks.dueCounts(what, x, AmbEvaluator.READY, 2, 1);
+        Checks.dueLast(what, x, AmbEvaluator.KIND_INT, 5, "11", 2);
+        Checks.due(what, x.next(), AmbEvaluator.EXHAUSTED);
+        Checks.dueCounts(what, x, AmbEvaluator.DONE, 2, 1);
+    }
+
     private static void promise6Restart() {
         AmbEvaluator x = new AmbEvaluator(2, 2);
         Checks.due("restart when new", x.restart(), false);
@@ -327,13 +338,9 @@ final class PromisesTest {
             }
             Checks.due("phase", x.phase(), nexts < 3 ? AmbEvaluator.READY : AmbEvaluator.DONE);
             dueRestarted("restart after " + nexts + " calls of next", x);
+            dueWholeSearch("restart after " + nexts + " calls of next", x);
+            dueRestarted("restart after a whole search", x);
         }
-        x.next();
-        Checks.dueCounts("after restart", x, AmbEvaluator.READY, 1, 1);
-        Checks.dueLast("after restart", x, AmbEvaluator.KIND_CLOSURE, 3, "10", 1);
-        x.next();
-        Checks.dueCounts("after restart", x, AmbEvaluator.READY, 2, 1);
-        Checks.dueLast("after restart", x, AmbEvaluator.KIND_INT, 5, "11", 2);
         x.reset();
         Checks.due("restart after reset", x.restart(), false);
         dueLimits(x, 2, 2);
