@@ -81,8 +81,8 @@ public final class AmbEvaluator {
 
     public void reset() {
         held = 0;
-        startSearch();
         stage = EDIT;
+        clearSearch();
     }
 
     public boolean token(int kind, int arg) {
@@ -114,7 +114,8 @@ public final class AmbEvaluator {
         if (!allBound()) {
             return ERR_UNBOUND;
         }
-        startSearch();
+        stage = READY;
+        clearSearch();
         return OK;
     }
 
@@ -143,7 +144,8 @@ public final class AmbEvaluator {
         if (stage == EDIT) {
             return false;
         }
-        startSearch();
+        stage = READY;
+        clearSearch();
         return true;
     }
 
@@ -277,8 +279,7 @@ public final class AmbEvaluator {
         return false;
     }
 
-    private void startSearch() {
-        stage = READY;
+    private void clearSearch() {
         solutions = 0;
         failures = 0;
         lastKind = KIND_NONE;
