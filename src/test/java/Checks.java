@@ -180,6 +180,15 @@ final class Checks {
         due(what + ", choiceBit past the end", x.choiceBit(bits.length()), -1);
     }
 
+    static void dueTokens(String what, AmbEvaluator x, String text) {
+        int[] tokens = parse(text);
+        due(what + ", tokenCount", x.tokenCount(), tokens.length / 2);
+        for (int i = 0; i < tokens.length / 2; i++) {
+            due(what + ", tokenKind(" + i + ")", x.tokenKind(i), tokens[2 * i]);
+            due(what + ", tokenArg(" + i + ")", x.tokenArg(i), tokens[2 * i + 1]);
+        }
+    }
+
     static void dueCounts(String what, AmbEvaluator x, int phase, int solutions, int failures) {
         due(what + ", phase", x.phase(), phase);
         due(what + ", solutionCount", x.solutionCount(), solutions);

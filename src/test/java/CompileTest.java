@@ -283,13 +283,7 @@ final class CompileTest {
     private static void okKeepsTokens() {
         Checks.sentence("Promise 4", "The tokens are kept.");
         for (String text : GOOD) {
-            AmbEvaluator x = Checks.compiled(6, 16, text);
-            int[] tokens = Checks.parse(text);
-            Checks.due("tokenCount of " + text, x.tokenCount(), tokens.length / 2);
-            for (int i = 0; i < tokens.length / 2; i++) {
-                Checks.due("tokenKind(" + i + ") of " + text, x.tokenKind(i), tokens[2 * i]);
-                Checks.due("tokenArg(" + i + ") of " + text, x.tokenArg(i), tokens[2 * i + 1]);
-            }
+            Checks.dueTokens(text, Checks.compiled(6, 16, text), text);
         }
     }
 }

@@ -2,6 +2,7 @@ import java.util.LinkedHashMap;
 import java.util.Map;
 import java.util.function.Consumer;
 import java.util.function.IntUnaryOperator;
+import java.util.function.ToIntFunction;
 
 /** The queries on the phase, the counts and the last solution (promises 7 to 13), sentence by sentence. */
 final class QueryTest {
@@ -130,27 +131,32 @@ final class QueryTest {
         }
     }
 
-    private static void solutionCountSinceTheLast() {
-        Checks.sentence("Promise 10", "solutionCount() answers the number of solutions yielded since "
-            + "the last successful compile or restart.");
-        AmbEvaluator x = Checks.compiled(6, 16, "AMB NUM:1 AMB NUM:2 FAIL");
-        int[] counts = {1, 2, 2, 2};
+    /** A count after each call of next, in each of several searches. */
+    private static void dueSinceTheLast(String program, ToIntFunction<AmbEvaluator> query, int... counts) {
+        AmbEvaluator x = Checks.compiled(6, 16, program);
         for (int round = 0; round < 2; round++) {
-            Checks.due("before next", x.solutionCount(), 0);
+            Checks.due("before next", query.applyAsInt(x), 0);
             for (int count : counts) {
                 x.next();
-                Checks.due("after next", x.solutionCount(), count);
+                Checks.due("after next", query.applyAsInt(x), count);
                 x.compile();
                 x.token(AmbEvaluator.NUM, 1);
-                Checks.due("after calls that are refused", x.solutionCount(), count);
+                Checks.due("after calls that are refused", query.applyAsInt(x), count);
             }
             x.restart();
         }
         x.next();
         x.restart();
-        Checks.due("after a restart in READY", x.solutionCount(), 0);
+        Checks.due("after a restart in READY", query.applyAsInt(x), 0);
         x.next();
-        Checks.due("from 0 again", x.solutionCount(), 1);
+        Checks.due("from 0 again", query.applyAsInt(x), counts[0]);
+    }
+
+    private static void solutionCountSinceTheLast() {
+        Checks.sentence("Promise 10", "solutionCount() answers the number of solutions yielded since "
+            + "the last successful compile or restart.");
+        dueSinceTheLast("AMB NUM:1 AMB NUM:2 FAIL", AmbEvaluator::solutionCount, 1, 2, 2, 2);
+        dueSinceTheLast("AMB FAIL FAIL", AmbEvaluator::solutionCount, 0, 0);
     }
 
     private static void solutionCountInEdit() {
@@ -163,24 +169,8 @@ final class QueryTest {
     private static void failureCountSinceTheLast() {
         Checks.sentence("Promise 11", "failureCount() answers the number of failing paths examined since the last "
             + "successful compile or restart.");
-        AmbEvaluator x = Checks.compiled(6, 16, "AMB FAIL AMB NUM:1 AMB FAIL AMB NUM:2 FAIL");
-        int[] counts = {1, 2, 3, 3};
-        for (int round = 0; round < 2; round++) {
-            Checks.due("before next", x.failureCount(), 0);
-            for (int count : counts) {
-                x.next();
-                Checks.due("after next", x.failureCount(), count);
-                x.compile();
-                x.token(AmbEvaluator.NUM, 1);
-                Checks.due("after calls that are refused", x.failureCount(), count);
-            }
-            x.restart();
-        }
-        x.next();
-        x.restart();
-        Checks.due("after a restart in READY", x.failureCount(), 0);
-        x.next();
-        Checks.due("from 0 again", x.failureCount(), 1);
+        dueSinceTheLast("AMB FAIL AMB NUM:1 AMB FAIL AMB NUM:2 FAIL", AmbEvaluator::failureCount, 1, 2, 3, 3);
+        dueSinceTheLast("AMB NUM:1 NUM:2", AmbEvaluator::failureCount, 0, 0, 0, 0);
     }
 
     private static void failureCountInEdit() {

@@ -49,8 +49,6 @@ final class Reference {
         private static final long serialVersionUID = 1L;
     }
 
-    private static final int[] ARITY = {0, 0, 2, 2, 2, 2, 2, 3, 2, 0, 2, 2, 1, 2, 1, 2};
-
     private final int[] tokens;
     private final int maxChoices;
     private final int maxAlloc;
@@ -114,7 +112,7 @@ final class Reference {
         node.kind = tokens[2 * reader];
         node.arg = tokens[2 * reader + 1];
         reader++;
-        for (int i = 0; i < ARITY[node.kind]; i++) {
+        for (int i = 0; i < Checks.ARITY[node.kind]; i++) {
             Node operand = read();
             if (operand == null) {
                 return null;

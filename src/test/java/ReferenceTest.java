@@ -6,7 +6,6 @@ import java.util.Random;
 final class ReferenceTest {
     private static final int PROGRAMS = 60000;
     private static final int SOUPS = 60000;
-    private static final int[] ARITY = {0, 0, 2, 2, 2, 2, 2, 3, 2, 0, 2, 2, 1, 2, 1, 2};
     private static final int[] NUMBERS = {0, 0, 1, 1, 2, 3, -1, 7, Integer.MAX_VALUE, Integer.MIN_VALUE};
     // More of the forms that work together, fewer that end a path at once.
     private static final int[] INNER = {2, 3, 4, 5, 6, 7, 8, 8, 8, 10, 11, 11, 11, 12, 12, 13, 13, 13, 14, 14, 15, 15};
@@ -60,7 +59,7 @@ final class ReferenceTest {
     private static void make(List<Integer> tokens, int size, List<Integer> scope) {
         int kind = INNER[made.nextInt(INNER.length)];
         boolean open = kind == AmbEvaluator.SET && scope.isEmpty();
-        if (size <= ARITY[kind] || open) {
+        if (size <= Checks.ARITY[kind] || open) {
             makeLeaf(tokens, scope);
             return;
         }
@@ -74,8 +73,8 @@ final class ReferenceTest {
         List<Integer> wider = new ArrayList<>(scope);
         wider.add(arg);
         int left = size - 1;
-        for (int i = 0; i < ARITY[kind]; i++) {
-            int later = ARITY[kind] - 1 - i;
+        for (int i = 0; i < Checks.ARITY[kind]; i++) {
+            int later = Checks.ARITY[kind] - 1 - i;
             int share = later == 0 ? left : 1 + made.nextInt(left - later);
             boolean body = kind == AmbEvaluator.LAM || (kind == AmbEvaluator.LET && i == 1);
             int before = tokens.size();
@@ -141,9 +140,7 @@ final class ReferenceTest {
         int[] tokens = new int[2 * made.nextInt(10)];
         for (int i = 0; i < tokens.length; i += 2) {
             tokens[i] = made.nextInt(3) == 0 ? made.nextInt(2) : made.nextInt(16);
-            boolean plain = tokens[i] == AmbEvaluator.VAR || tokens[i] == AmbEvaluator.LET
-                || tokens[i] == AmbEvaluator.LAM || tokens[i] == AmbEvaluator.SET;
-            tokens[i + 1] = plain ? made.nextInt(2) : made.nextInt(5);
+            tokens[i + 1] = Checks.namesVariable(tokens[i]) ? made.nextInt(2) : made.nextInt(5);
         }
         return tokens;
     }

@@ -176,17 +176,10 @@ final class SearchTest {
 
     private static void tokensAndLimitsStay() {
         Checks.sentence("Promise 5", "Tokens and limits never change.");
-        int[] tokens = Checks.parse(Programs.MIXED);
-        AmbEvaluator x = new AmbEvaluator(2, 1);
-        Checks.feed(x, Programs.MIXED);
-        x.compile();
+        AmbEvaluator x = Checks.compiled(2, 1, Programs.MIXED);
         for (int call = 0; call < 6; call++) {
             x.next();
-            Checks.due("tokenCount", x.tokenCount(), tokens.length / 2);
-            for (int i = 0; i < tokens.length / 2; i++) {
-                Checks.due("tokenKind(" + i + ")", x.tokenKind(i), tokens[2 * i]);
-                Checks.due("tokenArg(" + i + ")", x.tokenArg(i), tokens[2 * i + 1]);
-            }
+            Checks.dueTokens("after a call of next", x, Programs.MIXED);
         }
         Limits.due("after a search", x, 2, 1);
     }
@@ -406,12 +399,7 @@ final class SearchTest {
                 x.next();
             }
             x.restart();
-            int[] tokens = Checks.parse(Programs.MIXED);
-            Checks.due("tokenCount", x.tokenCount(), tokens.length / 2);
-            for (int i = 0; i < tokens.length / 2; i++) {
-                Checks.due("tokenKind(" + i + ")", x.tokenKind(i), tokens[2 * i]);
-                Checks.due("tokenArg(" + i + ")", x.tokenArg(i), tokens[2 * i + 1]);
-            }
+            Checks.dueTokens("after a restart", x, Programs.MIXED);
             Checks.due("its search", Checks.search(x), Programs.MIXED_OUTCOMES);
             Limits.due("after " + nexts + " calls of next and a restart", x, 2, 1);
         }

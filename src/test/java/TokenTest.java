@@ -228,12 +228,8 @@ final class TokenTest {
             Checks.due("at the first position", x.tokenKind(0), AmbEvaluator.NUM);
             Checks.due("at the last position of all", x.tokenKind(31), kind);
         }
-        int[] tokens = Checks.parse(Programs.MIXED);
         for (int nexts = 0; nexts <= 4; nexts++) {
-            AmbEvaluator x = Checks.searched(Programs.MIXED, nexts);
-            for (int i = 0; i < 10; i++) {
-                Checks.due("in a search, tokenKind(" + i + ")", x.tokenKind(i), tokens[2 * i]);
-            }
+            Checks.dueTokens("in a search", Checks.searched(Programs.MIXED, nexts), Programs.MIXED);
         }
     }
 
@@ -274,12 +270,8 @@ final class TokenTest {
             Checks.due("at the first position", x.tokenArg(0), 5);
             Checks.due("at the last position of all", x.tokenArg(31), kept ? 7 : 0);
         }
-        int[] tokens = Checks.parse(Programs.MIXED);
         for (int nexts = 0; nexts <= 4; nexts++) {
-            AmbEvaluator x = Checks.searched(Programs.MIXED, nexts);
-            for (int i = 0; i < 10; i++) {
-                Checks.due("in a search, tokenArg(" + i + ")", x.tokenArg(i), tokens[2 * i + 1]);
-            }
+            Checks.dueTokens("in a search", Checks.searched(Programs.MIXED, nexts), Programs.MIXED);
         }
     }
 
