@@ -341,6 +341,9 @@ final class SearchTest {
             + "APP VAR:0 SUB VAR:1 NUM:1 NUM:7 APP VAR:0 NUM:";
         Checks.dueSearch(down + 13, "->7@16!0 end!0");
         Checks.dueSearch(down + 14, "end!1");
+        // More than 230 expressions are open at once, and all of them are answered in the end.
+        Checks.dueSearch("LET:0 NUM:0 APP SET:0 LAM:1 IF VAR:1 " + "SET:1 ".repeat(18)
+            + "APP VAR:0 SUB VAR:1 NUM:1 NUM:7 NUM:13", "->7@16!0 end!0");
     }
 
     private static void restartInEdit() {
